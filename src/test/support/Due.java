@@ -1,0 +1,29 @@
+/** Holds each answer against the one that is due, and tells the wrong ones. */
+final class Due {
+  private int wrong = 0;
+
+  void is(String call, long got, long want) {
+    if (got != want) {
+      wrong++;
+      System.out.println(call + " answered " + got + ", due is " + want);
+    }
+  }
+
+  void isTrue(String what, boolean holds) {
+    if (!holds) {
+      wrong++;
+      System.out.println("does not hold: " + what);
+    }
+  }
+
+  int wrongSoFar() {
+    return wrong;
+  }
+
+  void end() {
+    if (wrong != 0) {
+      System.out.println(wrong + " answers are not as due");
+      System.exit(1);
+    }
+  }
+}

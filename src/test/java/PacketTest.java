@@ -81,7 +81,7 @@ public final class PacketTest {
     CarouselMount x = new CarouselMount();
     x.make(0, 1, false);
     x.publish();
-    for (int turn = 0; turn < 12; turn++) {
+    for (int turn = 0; turn < 8; turn++) {
       int[] first = Sections.nextPacket(x);
       due.isTrue("peeked twice", Arrays.equals(first, Sections.nextPacket(x)));
       x.make(0, 2 + turn, false);
@@ -115,16 +115,9 @@ public final class PacketTest {
 
   /** Takes one cycle apart by the rule of the packets and holds it against the sections due. */
   private static void cycleHoldsSectionsInOrder(int files, int bytes) {
-    CarouselMount x = new CarouselMount();
-    for (int key = 1; key <= files; key++) {
-      x.make(0, key, false);
-      for (int i = 0; i < bytes; i++) {
-        x.append(key, 60);
-      }
-    }
-    x.publish();
+    CarouselMount x = published(files, bytes);
     String what = files + " files of " + bytes + " bytes: ";
-    List<int[]> sections = splitCycle(x, what);
+    List<int[]> sections = splitCycle(files, bytes, what);
     List<Integer> lengths = sectionLengths(x);
     due.is(what + "sections", sections.size(), lengths.size());
     if (sections.size() != lengths.size()) {
@@ -149,12 +142,28 @@ public final class PacketTest {
         x.count(0), sections.get(0).length <= 13 ? 1 : 0);
   }
 
-  private static List<int[]> splitCycle(CarouselMount x, String what) {
-    List<Integer> lengths = sectionLengths(x);
+  private static CarouselMount published(int files, int bytes) {
+    CarouselMount x = new CarouselMount();
+    for (int key = 1; key <= files; key++) {
+      x.make(0, key, false);
+      for (int i = 0; i < bytes; i++) {
+        x.append(key, 60);
+      }
+    }
+    x.publish();
+    return x;
+  }
+
+  private static List<int[]> splitCycle(int files, int bytes, String what) {
+    List<Integer> lengths = sectionLengths(published(files, bytes));
     List<int[]> sections = new ArrayList<>();
     List<Integer> open = new ArrayList<>();
-    for (int turn = 0; turn < 80 && sections.size() < lengths.size(); turn++) {
+    for (int turn = 0; turn < 64 && sections.size() < lengths.size(); turn++) {
+      // A new object for each packet, because one is good for 512 calls alone.
+      CarouselMount x = published(files, bytes);
+      x.lose(turn);
       int[] packet = Sections.nextPacket(x);
+      due.is(what + "counter", packet[1] & 15, turn % 16);
       int rest = open.isEmpty() ? 0 : lengths.get(sections.size()) - open.size();
       boolean unbegun = sections.size() + (open.isEmpty() ? 0 : 1) < lengths.size();
       boolean start = (packet[1] & 64) != 0;
@@ -173,7 +182,6 @@ public final class PacketTest {
           open.clear();
         }
       }
-      x.lose(1);
     }
     return sections;
   }

@@ -9,6 +9,7 @@ public final class PublishTest {
     twelveObjectsOfWidestKind();
     versionsFollowBytes();
     versionOfNumberThatCameBack();
+    firstByteOfModuleDecidesToo();
     entryMovesToAnotherModule();
     changesWaitForPublish();
     due.end();
@@ -133,6 +134,26 @@ public final class PublishTest {
     x.publish();
     due.is("module(1) is not of the publishing before", x.module(1), 65536 * 3 + 15);
     due.is("module(2) is not of the publishing before", x.module(2), 65536 * 3 + 15);
+  }
+
+  private static void firstByteOfModuleDecidesToo() {
+    CarouselMount x = new CarouselMount();
+    for (int name = 1; name <= 6; name++) {
+      x.make(0, name, false);
+    }
+    x.publish();
+    due.is("gateway alone", x.module(0), 65536 + 27);
+    due.is("six empty files", x.module(1), 65536 + 18);
+    x.remove(1);
+    x.make(0, 1, true);
+    x.publish();
+    due.is("a kind in an entry differs", x.module(0), 65536 * 2 + 27);
+    due.is("the first message's kind differs", x.module(1), 65536 * 2 + 18);
+    x.remove(6);
+    x.make(0, 6, true);
+    x.publish();
+    due.is("a kind in an entry differs", x.module(0), 65536 * 3 + 27);
+    due.is("the last message's kind differs", x.module(1), 65536 * 3 + 18);
   }
 
   private static void entryMovesToAnotherModule() {

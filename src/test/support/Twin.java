@@ -4,13 +4,21 @@ final class Twin {
   private final String label;
   private final CarouselMount x = new CarouselMount();
   private final Model model = new Model();
+  private int calls = 0;
 
   Twin(Due due, String label) {
     this.due = due;
     this.label = label;
   }
 
+  /** What an object answers behind its 512th call is free, so no test may ask for it. */
+  private void countCall() {
+    calls++;
+    due.isTrue(label + ": at most 512 calls, this is " + calls, calls <= 512);
+  }
+
   private int same(String call, int got, int want) {
+    countCall();
     if (got != want) {
       due.is(label + ": " + call, got, want);
     }
@@ -79,6 +87,7 @@ final class Twin {
   }
 
   void retune() {
+    countCall();
     x.retune();
     model.retune();
   }

@@ -1,18 +1,24 @@
 /** Holds each answer against the one that is due, and tells the wrong ones. */
 final class Due {
   private int wrong = 0;
+  private String words = "";
+
+  /** The document's words that the answers from here on are held against. */
+  void sentence(String ofDocument) {
+    words = "'" + ofDocument + "': ";
+  }
 
   void is(String call, long got, long want) {
     if (got != want) {
       wrong++;
-      System.out.println(call + " answered " + got + ", due is " + want);
+      System.out.println(words + call + " answered " + got + ", due is " + want);
     }
   }
 
   void isTrue(String what, boolean holds) {
     if (!holds) {
       wrong++;
-      System.out.println("does not hold: " + what);
+      System.out.println(words + "does not hold: " + what);
     }
   }
 

@@ -1,6 +1,6 @@
 import java.util.zip.CRC32;
 
-/** Sections and packets as a test writes and sees them. */
+/** Sections as a test writes them. */
 final class Sections {
   private Sections() {
   }
@@ -26,13 +26,5 @@ final class Sections {
       all[end + i] = check >>> 24 - 8 * i & 255;
     }
     return all;
-  }
-
-  static int[] nextPacket(CarouselMount x) {
-    int[] packet = new int[16];
-    for (int i = 0; i < 16; i++) {
-      packet[i] = x.peek(i);
-    }
-    return packet;
   }
 }

@@ -1,26 +1,36 @@
 /** The program and the model side by side: every call goes to both, and both must answer alike. */
 final class Twin {
+  private static final int MOST_CALLS = 512;
+
   private final Due due;
   private final String label;
   private final CarouselMount x = new CarouselMount();
   private final Model model = new Model();
   private int calls = 0;
 
+  Twin(Due due) {
+    this(due, "");
+  }
+
   Twin(Due due, String label) {
     this.due = due;
-    this.label = label;
+    this.label = label.isEmpty() ? "" : label + ": ";
+  }
+
+  int callsLeft() {
+    return MOST_CALLS - calls;
   }
 
   /** What an object answers behind its 512th call is free, so no test may ask for it. */
   private void countCall() {
     calls++;
-    due.isTrue(label + ": at most 512 calls, this is " + calls, calls <= 512);
+    due.isTrue(label + "at most 512 calls, this is " + calls, calls <= MOST_CALLS);
   }
 
   private int same(String call, int got, int want) {
     countCall();
     if (got != want) {
-      due.is(label + ": " + call, got, want);
+      due.is(label + call, got, want);
     }
     return got;
   }

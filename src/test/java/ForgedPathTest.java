@@ -235,8 +235,8 @@ public final class ForgedPathTest {
   }
 
   private static void sizeIsDividedForKindsOneAndTwo() {
-    due.sentence("The length of the message that the path leads to, for the kinds 1 and 2 divided by"
-        + " four without remainder.");
+    due.sentence("The length of the message that the path leads to, for the kinds 1 and 2 divided"
+        + " by four without remainder.");
     for (int kind : new int[] {0, 1, 2, 3, 4, 255}) {
       boolean divided = kind == 1 || kind == 2;
       due.is("kind " + kind + ", length 0", module1(2, kind, 2, 0).size(1, 0, 0), 0);

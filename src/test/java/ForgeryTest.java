@@ -16,6 +16,7 @@ public final class ForgeryTest {
   public static void main(String[] args) {
     lessThanSixBytesAreBad();
     wrongCheckIsBad();
+    doublingOfZero();
     badComesBeforeStrange();
     listHasFirstByte59();
     listHasNineBytesAtLeast();
@@ -27,6 +28,7 @@ public final class ForgeryTest {
     blockHasElevenToEighteenBytes();
     transactionBecomesTheOneOfTheList();
     listKeepsVeryVersionAndSize();
+    listOfSameTransaction();
     listOfFewerModules();
     blockOfListedModule();
     blockOfListedVersion();
@@ -71,6 +73,19 @@ public final class ForgeryTest {
     int[] section = Sections.section(7);
     section[5] ^= 1;
     fresh().feed("six bytes, the last one is wrong", BAD, section);
+  }
+
+  private static void doublingOfZero() {
+    due.sentence("c is doubled, and if it was negative before that, c becomes c ^ 79764919");
+    int[] head = {7, 9};
+    int check = Sections.check(head, 2);
+    // A row of bytes with its own CHECK behind it makes c 0.
+    int[] section = Sections.section(7, check >>> 24, check >>> 16 & 255, check >>> 8 & 255,
+        check & 255, 0);
+    for (int i = 7; i < 11; i++) {
+      due.is("CHECK's byte " + (i - 7), section[i], 0);
+    }
+    fresh().feed("a CHECK of 0", STRANGE, section);
   }
 
   private static void badComesBeforeStrange() {
@@ -223,6 +238,17 @@ public final class ForgeryTest {
     forged.feed("version 8", LIST, Forged.list(6, 3, 0, 8));
     forged.feed("version 9 again", LIST, Forged.list(7, 3, 0, 9));
     due.is("nothing is held of what was listed otherwise between", forged.x.held(0), 0);
+  }
+
+  private static void listOfSameTransaction() {
+    due.sentence("otherwise nothing is held of it, and it is listed with the new version and size,"
+        + " or no longer listed");
+    Forged forged = listed(3, 0, 9, 1, 0, 9);
+    forged.feed("block", BLOCK, Forged.block(0, 9, 0, 1, 0, 0));
+    forged.feed("other rows", LIST, Forged.list(5, 2, 0, 8));
+    due.is("transaction()", forged.x.transaction(), 5);
+    due.is("held(0)", forged.x.held(0), 0);
+    due.is("held(1)", forged.x.held(1), MISSING);
   }
 
   private static void listOfFewerModules() {

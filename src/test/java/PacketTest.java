@@ -1,7 +1,7 @@
 import java.util.Arrays;
 import java.util.List;
 
-/** Promises 9 to 12 at the sender, sentence by sentence: what the packets hold, and sending them. */
+/** Promises 9 to 12 at the sender, sentence by sentence: the packets, and sending them. */
 public final class PacketTest {
   private static final int BAD = CarouselMount.BAD;
   private static final int MISSING = CarouselMount.MISSING;
@@ -182,6 +182,29 @@ public final class PacketTest {
     bytes("of the same tree", x.nextPacket(), expectedFirstPacket(67, 0, 2, 1, 10, 0, 1));
     x.publish();
     bytes("twice", x.nextPacket(), expectedFirstPacket(67, 0, 3, 1, 10, 0, 1));
+    int[] block = Sections.section(60, 0, 0, 2, 0, 1, 0, 0);
+    for (int packet = 0; packet < 6; packet++) {
+      int[] got = Broadcast.packet(PacketTest::smallBehindLarge, packet);
+      int counter = 3 + packet;
+      if (packet % 2 == 0) {
+        bytes("small cycle behind a large one", got,
+            expectedFirstPacket(64 + counter, 0, 2, 1, 3, 0, 2));
+      } else {
+        int[] want = {71, counter, 0, 0, 0, 0, 0, 0, 0, 0, 0, 0, 0, 0, 255, 255};
+        System.arraycopy(block, 1, want, 2, 12);
+        bytes("small cycle behind a large one", got, want);
+      }
+    }
+  }
+
+  private static Twin smallBehindLarge() {
+    Twin x = files(12, 12, 12);
+    x.lose(3);
+    for (int key = 1; key < 4; key++) {
+      x.remove(key);
+    }
+    x.publish();
+    return x;
   }
 
   private static int[] expectedFirstPacket(int control, int... inside) {
@@ -256,8 +279,8 @@ public final class PacketTest {
   }
 
   private static void startWithRestUpToTwelve() {
-    due.sentence("When r is at most 12 and the cycle has a section that has not begun, the packet is"
-        + " a start: its third byte is r, then come those r bytes and then the sections that have"
+    due.sentence("When r is at most 12 and the cycle has a section that has not begun, the packet"
+        + " is a start: its third byte is r, then come those r bytes and then the sections that have"
         + " not begun, one right behind the other, as far as the packet goes.");
     start(0, 0, 0);
     start(5, 0, 7, 1);
@@ -451,8 +474,8 @@ public final class PacketTest {
   }
 
   private static void spoilChangesOneByte() {
-    due.sentence("The next packet is sent, and reaches the receiver with its byte i being changed to"
-        + " byte ^ bits: 1.");
+    due.sentence("The next packet is sent, and reaches the receiver with its byte i being changed"
+        + " to byte ^ bits: 1.");
     int[] ignored = {1, 0, 0, 0, 0, 0, 0, 0, 0, 0, 0, 0, 0, 0, 0, 0};
     int[] bad = {0, 0, 0, 0, 0, 1, 1, 1, 1, 1, 1, 1, 1, 1, 1, 0};
     for (int i = 0; i < 16; i++) {

@@ -160,8 +160,8 @@ public final class PathTest {
   }
 
   private static void sizeOfEachMessage() {
-    due.sentence("The length of the message that the path leads to, for the kinds 1 and 2 divided by"
-        + " four without remainder.");
+    due.sentence("The length of the message that the path leads to, for the kinds 1 and 2 divided"
+        + " by four without remainder.");
     Unchanged state = new Unchanged(due, PathTest::received);
     state.by("the gateway", x -> x.size(0, 0, 0), 1);
     state.by("a directory", x -> x.size(4, 0, 0), 2);

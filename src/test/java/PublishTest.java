@@ -275,15 +275,21 @@ public final class PublishTest {
     x.append(2, 2);
     x.publish();
     due.is("shorter by one", x.module(1), 65536 * 3 + 5);
+    x.append(2, 2);
+    x.publish();
+    due.is("longer by one again", x.module(1), 65536 * 4 + 6);
     x.make(0, 3, false);
     x.publish();
-    due.is("module(1)", x.module(1), 65536 * 4 + 19);
+    due.is("module(1)", x.module(1), 65536 * 5 + 20);
     x.make(0, 4, false);
     x.publish();
-    due.is("longer by a message behind the same ones", x.module(1), 65536 * 5 + 22);
+    due.is("longer by a message behind the same ones", x.module(1), 65536 * 6 + 23);
     x.remove(4);
     x.publish();
-    due.is("shorter by a message behind the same ones", x.module(1), 65536 * 6 + 19);
+    due.is("shorter by a message behind the same ones", x.module(1), 65536 * 7 + 20);
+    x.make(0, 4, false);
+    x.publish();
+    due.is("longer by that message again", x.module(1), 65536 * 8 + 23);
   }
 
   private static void versionOfNumberThatWasNot() {

@@ -645,6 +645,16 @@ public final class ReceiverTest {
     w.send(3);
     counts("nothing listed, so blocks are strange", w, 0, 0, 1, 2, 0, 0);
 
+    Twin most = files(12, 12, 12, 12, 12, 12, 12, 12, 12, 12, 12);
+    most.send(64);
+    due.is("twelve modules", most.held(11), 2);
+    most.retune();
+    for (int m = 0; m < 12; m++) {
+      due.is("nothing listed of twelve: held(" + m + ")", most.held(m), MISSING);
+    }
+    most.send(64);
+    due.is("listed and held anew", most.held(11), 2);
+
     Twin v = fresh();
     v.retune();
     counts("of a new object", v, 0, 0, 0, 0, 0, 0);

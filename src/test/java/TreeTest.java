@@ -231,6 +231,13 @@ public final class TreeTest {
     due.is("a name that an empty directory has not", x.make(3, 2, true), 5);
     due.is("the greatest name", x.make(0, 255, true), 6);
     due.is("the greatest name twice", x.make(0, 255, true), EXISTS);
+    Twin y = full();
+    y.remove(5);
+    due.is("a name that was removed is free", y.make(1, 5, true), 5);
+    y.remove(4);
+    for (int key = 6; key < 12; key++) {
+      due.is("the name of key " + key, y.make(0, key, true), EXISTS);
+    }
   }
 
   private static void makeRefusesTwelfthObject() {

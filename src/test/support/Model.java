@@ -210,7 +210,8 @@ final class Model {
     List<Integer> inside = new ArrayList<>(
         List.of(published / 256 % 256, published % 256, moduleBytes.size()));
     for (int m = 0; m < moduleBytes.size(); m++) {
-      inside.addAll(List.of(moduleBytes.get(m).size(), versions.get(m) / 256, versions.get(m) % 256));
+      int version = versions.get(m);
+      inside.addAll(List.of(moduleBytes.get(m).size(), version / 256, version % 256));
     }
     all.add(Sections.section(59, toArray(inside)));
     for (int m = 0; m < moduleBytes.size(); m++) {

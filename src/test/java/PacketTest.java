@@ -20,7 +20,9 @@ public final class PacketTest {
     publishBreaksCycleOff();
     counterWrapsAround();
     counterCountsEveryPacket();
+    packetsHaveSixteenBytes();
     controlByteHasNoOtherBits();
+    noRestBehindWholeSection();
     startWithRestUpToTwelve();
     noStartWithRestAboveTwelve();
     noStartWithoutSectionToBegin();
@@ -43,17 +45,8 @@ public final class PacketTest {
     return new Twin(due);
   }
 
-  /** Files of the gateway, named from 1 on, with so many bytes. */
   private static Twin files(int... lengths) {
-    Twin x = fresh();
-    for (int f = 0; f < lengths.length; f++) {
-      int key = x.make(0, f + 1, false);
-      for (int i = 0; i < lengths[f]; i++) {
-        x.append(key, 60);
-      }
-    }
-    x.publish();
-    return x;
+    return Trees.files(due, lengths);
   }
 
   private static Twin equalFiles(int files, int bytes) {
@@ -62,26 +55,21 @@ public final class PacketTest {
     return files(lengths);
   }
 
-  private static void bytes(String what, int[] got, int... want) {
-    due.isTrue(what + " " + Arrays.toString(got) + ", due is " + Arrays.toString(want),
-        Arrays.equals(got, want));
-  }
-
   private static void checkOfKnownBytes() {
-    due.sentence("The CHECK is four bytes, the highest first");
+    due.sentence("The CHECK is four bytes, the highest first, of an int c that is -1 at first");
     int[] digits = {49, 50, 51, 52, 53, 54, 55, 56, 57};
     due.is("the tests' own CHECK of nine digits", Sections.check(digits, 9), 0x0376E6E7);
     due.is("the tests' own CHECK of nothing", Sections.check(digits, 0), -1);
-    bytes("first packet", files(2).nextPacket(),
+    due.bytes("first packet", files(2).nextPacket(),
         71, 64, 0, 59, 10, 0, 1, 1, 12, 0, 1, 214, 83, 107, 190, 60);
   }
 
   private static void smallestCycle() {
     due.sentence("A BLOCK section: 60, how many bytes follow, module, its version as a pair,"
         + " number of the block, the bytes of the block, the CHECK.");
-    bytes("first packet", Broadcast.packet(PacketTest::files, 0),
+    due.bytes("first packet", Broadcast.packet(PacketTest::files, 0),
         71, 64, 0, 59, 10, 0, 1, 1, 3, 0, 1, 221, 157, 72, 19, 60);
-    bytes("second packet", Broadcast.packet(PacketTest::files, 1),
+    due.bytes("second packet", Broadcast.packet(PacketTest::files, 1),
         71, 1, 11, 0, 0, 1, 0, 1, 0, 0, 153, 160, 188, 225, 255, 255);
   }
 
@@ -89,9 +77,9 @@ public final class PacketTest {
     due.sentence("the LIST: 59, then how many bytes follow (so for every section), the transaction"
         + " as a pair, the number of modules, for each module its size (a byte) and its version as"
         + " a pair, then the CHECK");
-    bytes("one module", Broadcast.sections(PacketTest::files).get(0),
+    due.bytes("one module", Broadcast.sections(PacketTest::files).get(0),
         59, 10, 0, 1, 1, 3, 0, 1, 221, 157, 72, 19);
-    bytes("two modules", Broadcast.sections(() -> files(8, 0)).get(0),
+    due.bytes("two modules", Broadcast.sections(() -> files(8, 0)).get(0),
         Sections.section(59, 0, 1, 2, 22, 0, 1, 3, 0, 1));
     int[] rows = new int[3 + 36];
     rows[1] = 1;
@@ -100,9 +88,9 @@ public final class PacketTest {
       rows[3 + 3 * m] = m == 0 ? 47 : 15;
       rows[5 + 3 * m] = 1;
     }
-    bytes("twelve modules", Broadcast.sections(() -> equalFiles(11, 12)).get(0),
+    due.bytes("twelve modules", Broadcast.sections(() -> equalFiles(11, 12)).get(0),
         Sections.section(59, rows));
-    bytes("versions that differ", Broadcast.sections(PacketTest::secondModuleChanged).get(0),
+    due.bytes("versions that differ", Broadcast.sections(PacketTest::secondModuleChanged).get(0),
         Sections.section(59, 0, 2, 2, 22, 0, 1, 3, 0, 2));
   }
 
@@ -127,7 +115,7 @@ public final class PacketTest {
     int left = 0;
     for (int[] section : sections) {
       due.is(what + "length", section.length, lengths.get(at));
-      bytes(what + "CHECK of", section,
+      due.bytes(what + "CHECK of", section,
           Sections.section(section[0], Arrays.copyOfRange(section, 2, section.length - 4)));
       due.is(what + "first byte", section[0], at == 0 ? 59 : 60);
       if (at > 0) {
@@ -158,7 +146,8 @@ public final class PacketTest {
       for (int packet = 0; packet < 4; packet++) {
         int[] again = x.nextPacket();
         due.is("start", again[1] & 64, first[packet][1] & 64);
-        bytes("bytes", Arrays.copyOfRange(again, 2, 16), Arrays.copyOfRange(first[packet], 2, 16));
+        due.bytes("bytes", Arrays.copyOfRange(again, 2, 16),
+            Arrays.copyOfRange(first[packet], 2, 16));
         x.lose(1);
       }
       x.lose(64);
@@ -173,26 +162,26 @@ public final class PacketTest {
       x.lose(sent);
       x.append(1, 5);
       x.publish();
-      bytes("behind " + sent + " packets", x.nextPacket(),
+      due.bytes("behind " + sent + " packets", x.nextPacket(),
           expectedFirstPacket(64 + sent, 0, 2, 1, 11, 0, 2));
     }
     Twin x = files(0);
     x.lose(3);
     x.publish();
-    bytes("of the same tree", x.nextPacket(), expectedFirstPacket(67, 0, 2, 1, 10, 0, 1));
+    due.bytes("of the same tree", x.nextPacket(), expectedFirstPacket(67, 0, 2, 1, 10, 0, 1));
     x.publish();
-    bytes("twice", x.nextPacket(), expectedFirstPacket(67, 0, 3, 1, 10, 0, 1));
+    due.bytes("twice", x.nextPacket(), expectedFirstPacket(67, 0, 3, 1, 10, 0, 1));
     int[] block = Sections.section(60, 0, 0, 2, 0, 1, 0, 0);
     for (int packet = 0; packet < 6; packet++) {
       int[] got = Broadcast.packet(PacketTest::smallBehindLarge, packet);
       int counter = 3 + packet;
       if (packet % 2 == 0) {
-        bytes("small cycle behind a large one", got,
+        due.bytes("small cycle behind a large one", got,
             expectedFirstPacket(64 + counter, 0, 2, 1, 3, 0, 2));
       } else {
         int[] want = {71, counter, 0, 0, 0, 0, 0, 0, 0, 0, 0, 0, 0, 0, 255, 255};
         System.arraycopy(block, 1, want, 2, 12);
-        bytes("small cycle behind a large one", got, want);
+        due.bytes("small cycle behind a large one", got, want);
       }
     }
   }
@@ -259,11 +248,23 @@ public final class PacketTest {
     }
   }
 
+  private static void packetsHaveSixteenBytes() {
+    due.sentence("PACKETS have 16 bytes: 71, a CONTROL byte, and 14 bytes more.");
+    Twin x = files(12, 12);
+    for (int packet = 0; packet < 20; packet++) {
+      due.is("first byte", x.peek(0), 71);
+      for (int i = 0; i < 16; i++) {
+        due.is("byte " + i + " is one", x.peek(i) & ~255, 0);
+      }
+      due.is("there is no byte 16", x.peek(16), MISSING);
+      x.lose(1);
+    }
+  }
+
   private static void controlByteHasNoOtherBits() {
     due.sentence("the bit 64 says that it is a START; its other bits are 0");
     Twin x = files(12, 12, 3);
     for (int packet = 0; packet < 100; packet++) {
-      due.is("first byte", x.peek(0), 71);
       due.is("other bits", x.peek(1) & ~79, 0);
       x.lose(1);
     }
@@ -278,12 +279,22 @@ public final class PacketTest {
     due.is(what + "the next section begins", packet[3 + r], number == 0 ? 59 : 60);
   }
 
+  private static void noRestBehindWholeSection() {
+    due.sentence("(0 when the packet before ended with the end of a section or the cycle begins)");
+    start(0, 0, 0);
+    int[] packet = Broadcast.packet(() -> files(7, 1), 4);
+    due.is("14 bytes end a section with the packet", packet[1], 4);
+    start(5, 0, 7, 1);
+    packet = Broadcast.packet(() -> files(6, 2), 4);
+    due.is("13 bytes end a section before the packet's last byte", packet[15], 255);
+    start(5, 0, 6, 2);
+  }
+
   private static void startWithRestUpToTwelve() {
     due.sentence("When r is at most 12 and the cycle has a section that has not begun, the packet"
-        + " is a start: its third byte is r, then come those r bytes and then the sections that have"
-        + " not begun, one right behind the other, as far as the packet goes.");
-    start(0, 0, 0);
-    start(5, 0, 7, 1);
+        + " is a start: its third byte is r, then come those r bytes and then the sections that"
+        + " have not begun, one right behind the other, as far as the packet goes.");
+    start(0, 0, 12);
     start(5, 1, 8, 0);
     start(1, 2, 8, 0);
     start(2, 3, 0);
@@ -336,7 +347,7 @@ public final class PacketTest {
     }
     List<int[]> sections = Broadcast.sections(source);
     int[] ending = sections.get(sections.size() - 1);
-    bytes(what + "bytes", Arrays.copyOfRange(packet, 2, 2 + r),
+    due.bytes(what + "bytes", Arrays.copyOfRange(packet, 2, 2 + r),
         Arrays.copyOfRange(ending, ending.length - r, ending.length));
     int[] next = Broadcast.packet(source, number + 1);
     due.is(what + "then a start", next[1], 64 + (number + 1) % 16);
@@ -357,7 +368,7 @@ public final class PacketTest {
   private static void restOfPacketIsFilled() {
     due.sentence("What is left of a packet is filled with 255");
     int[] packet = Broadcast.packet(() -> files(8, 0), 6);
-    bytes("one byte, then fill", Arrays.copyOfRange(packet, 3, 16),
+    due.bytes("one byte, then fill", Arrays.copyOfRange(packet, 3, 16),
         255, 255, 255, 255, 255, 255, 255, 255, 255, 255, 255, 255, 255);
     packet = Broadcast.packet(() -> files(6, 12, 0), 8);
     due.is("a start with the last section of 12 bytes", packet[2], 0);
@@ -511,8 +522,8 @@ public final class PacketTest {
     for (int packet = 0; packet < 4; packet++) {
       x.spoil(3 + packet, 255);
     }
-    int[] again = x.nextPacket();
-    bytes("the next cycle's first packet", again, expectedFirstPacket(64 + 4, 0, 1, 1, 10, 0, 1));
+    due.bytes("the next cycle's first packet", x.nextPacket(),
+        expectedFirstPacket(64 + 4, 0, 1, 1, 10, 0, 1));
     x.send(4);
     due.is("list", x.transaction(), 1);
     due.is("blocks", x.held(0), 2);

@@ -20,6 +20,8 @@ public final class PathTest {
     moduleThatIsNotWhole();
     directoryInModuleThatIsNotWhole();
     moduleThatIsWhole();
+    messagesOneBehindTheOther();
+    readWaitsForThePath();
     refusalsComeInOrder();
     filesOfOneBroadcastAlone();
     due.end();
@@ -365,6 +367,45 @@ public final class PathTest {
     all(y, "a module of 16 bytes, the second block alone", 0, 0, 0, WAITING);
     y.send(4);
     due.is("both blocks", y.read(1, 0, 0, 5), 5);
+  }
+
+  private static void messagesOneBehindTheOther() {
+    due.sentence("Its messages are read one behind the other from its first byte on");
+    Twin x = fresh();
+    for (int name = 1; name < 12; name++) {
+      x.make(0, name, name % 3 == 0);
+    }
+    x.publish();
+    due.is("eight messages in module 1", x.module(1), 65536 + 24);
+    due.is("three messages in module 2", x.module(2), 65536 + 9);
+    x.send(40);
+    for (int name = 1; name < 12; name++) {
+      due.is("entry " + name, x.kind(name, 0, 0), name % 3 == 0 ? 2 : 3);
+    }
+    Twin y = fresh();
+    for (int name = 1; name < 6; name++) {
+      y.make(0, name, false);
+      for (int i = 0; i < name; i++) {
+        y.append(name, 10 * name + i);
+      }
+    }
+    y.publish();
+    y.send(40);
+    for (int name = 1; name < 6; name++) {
+      due.is("file " + name + ": size", y.size(name, 0, 0), name);
+      due.is("file " + name + ": first byte", y.read(name, 0, 0, 0), 10 * name);
+      due.is("file " + name + ": last byte", y.read(name, 0, 0, name - 1), 11 * name - 1);
+    }
+  }
+
+  private static void readWaitsForThePath() {
+    due.sentence("MISSING or WAITING from the path");
+    Twin x = fileChanged();
+    for (int i : new int[] {Integer.MIN_VALUE, -1, 0, 11, 12, Integer.MAX_VALUE}) {
+      due.is("WAITING: read(4, 9, 2, " + i + ")", x.read(4, 9, 2, i), WAITING);
+      due.is("MISSING: read(4, 8, 0, " + i + ")", x.read(4, 8, 0, i), MISSING);
+      due.is("MISSING: read(4, 7, 1, " + i + ")", x.read(4, 7, 1, i), MISSING);
+    }
   }
 
   private static void refusalsComeInOrder() {

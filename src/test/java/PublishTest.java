@@ -7,11 +7,13 @@ public final class PublishTest {
 
   public static void main(String[] args) {
     changesWaitForPublish();
+    publishTakesTreeAsItIs();
     publishAnswersTransaction();
     transactionIsPair();
     orderIsByNames();
     orderOfDeepestTree();
     messagesOfAllLengths();
+    filesOfNoneToTwelveBytes();
     messagesShareModuleUpToTwentyFour();
     laterModulesAreSharedToo();
     messageLongerThanTwentyFour();
@@ -31,28 +33,8 @@ public final class PublishTest {
     return new Twin(due);
   }
 
-  /** Makes a file with some bytes, all alike. */
-  private static int file(Twin x, int parent, int name, int length) {
-    int key = x.make(parent, name, false);
-    for (int i = 0; i < length; i++) {
-      x.append(key, key);
-    }
-    return key;
-  }
-
-  /** Files of the gateway, named from 1 on, with so many bytes. */
   private static Twin files(int... lengths) {
-    Twin x = fresh();
-    for (int f = 0; f < lengths.length; f++) {
-      file(x, 0, f + 1, lengths[f]);
-    }
-    x.publish();
-    return x;
-  }
-
-  private static void bytes(String what, int[] got, int... want) {
-    due.isTrue(what + " " + Arrays.toString(got) + ", due is " + Arrays.toString(want),
-        Arrays.equals(got, want));
+    return Trees.files(due, lengths);
   }
 
   private static void sizes(String what, Twin x, int... want) {
@@ -82,6 +64,25 @@ public final class PublishTest {
     x.send(10);
     due.is("file is as published", x.read(1, 0, 0, 0), 77);
     due.is("directory is as published", x.kind(2, 0, 0), 2);
+  }
+
+  private static void publishTakesTreeAsItIs() {
+    due.sentence("Publishes the tree as it is and answers the transaction.");
+    Twin x = fresh();
+    due.is("the gateway alone", x.publish(), 1);
+    sizes("the gateway alone", x, 3);
+    x.make(0, 1, false);
+    x.append(1, 9);
+    x.remove(1);
+    due.is("a file that came and went", x.publish(), 2);
+    due.is("is not there, so the bytes are the same", x.module(0), 65536 + 3);
+    x.make(0, 1, true);
+    x.make(1, 1, false);
+    x.append(2, 8);
+    due.is("a directory and a file in it", x.publish(), 3);
+    sizes("a directory and a file in it", x, 18);
+    due.is("as it is", x.publish(), 4);
+    sizes("as it is", x, 18);
   }
 
   private static void publishAnswersTransaction() {
@@ -139,11 +140,11 @@ public final class PublishTest {
   private static void orderIsByNames() {
     due.sentence("the gateway, then its entries by their names, the least first, each directory"
         + " followed in the same way by its entries before the next one");
-    bytes("module 0", Broadcast.module(PublishTest::byNames, 0),
+    due.bytes("module 0", Broadcast.module(PublishTest::byNames, 0),
         1, 0, 16, 1, 2, 1, 4, 127, 3, 1, 7, 128, 2, 2, 2, 255, 3, 2, 1);
-    bytes("module 1", Broadcast.module(PublishTest::byNames, 1),
+    due.bytes("module 1", Broadcast.module(PublishTest::byNames, 1),
         2, 4, 8, 2, 2, 1, 6, 200, 3, 1, 5, 2, 6, 0, 3, 5, 0, 3, 7, 0);
-    bytes("module 2", Broadcast.module(PublishTest::byNames, 2),
+    due.bytes("module 2", Broadcast.module(PublishTest::byNames, 2),
         2, 2, 4, 9, 3, 2, 3, 3, 3, 0, 3, 1, 0);
   }
 
@@ -160,24 +161,36 @@ public final class PublishTest {
   private static void orderOfDeepestTree() {
     due.sentence("each directory followed in the same way by its entries before the next one");
     sizes("eleven directories", chain(), 21, 21, 21, 17);
-    bytes("module 0", Broadcast.module(PublishTest::chain, 0),
+    due.bytes("module 0", Broadcast.module(PublishTest::chain, 0),
         1, 0, 4, 1, 2, 0, 1, 2, 1, 4, 1, 2, 0, 2, 2, 2, 4, 1, 2, 1, 3);
-    bytes("module 3", Broadcast.module(PublishTest::chain, 3),
+    due.bytes("module 3", Broadcast.module(PublishTest::chain, 3),
         2, 9, 4, 1, 2, 3, 10, 2, 10, 4, 1, 2, 3, 11, 2, 11, 0);
   }
 
   private static void messagesOfAllLengths() {
     due.sentence("for a file its bytes, for a directory four for each entry, by their names: name,"
         + " kind, number of the module it lies in, key");
-    bytes("no entry", Broadcast.module(PublishTest::files, 0), 1, 0, 0);
-    bytes("one entry, no byte", Broadcast.module(() -> files(0), 0),
+    due.bytes("no entry", Broadcast.module(PublishTest::files, 0), 1, 0, 0);
+    due.bytes("one entry, no byte", Broadcast.module(() -> files(0), 0),
         1, 0, 4, 1, 3, 0, 1, 3, 1, 0);
-    bytes("one entry, twelve bytes", Broadcast.module(() -> files(12), 0),
+    due.bytes("one entry, twelve bytes", Broadcast.module(() -> files(12), 0),
         1, 0, 4, 1, 3, 0, 1, 3, 1, 12, 1, 1, 1, 1, 1, 1, 1, 1, 1, 1, 1, 1);
     int[] most = Broadcast.module(() -> files(12, 12, 12, 12, 12, 12, 12, 12, 12, 12, 12), 0);
     due.is("eleven entries", most.length, 47);
-    bytes("first entry", Arrays.copyOfRange(most, 0, 7), 1, 0, 44, 1, 3, 1, 1);
-    bytes("last entry", Arrays.copyOfRange(most, 43, 47), 11, 3, 11, 11);
+    due.bytes("first entry", Arrays.copyOfRange(most, 0, 7), 1, 0, 44, 1, 3, 1, 1);
+    due.bytes("last entry", Arrays.copyOfRange(most, 43, 47), 11, 3, 11, 11);
+  }
+
+  private static void filesOfNoneToTwelveBytes() {
+    due.sentence("A file has up to 12 bytes.");
+    for (int length = 0; length <= 12; length++) {
+      Twin x = files(length);
+      x.send(10);
+      due.is(length + " bytes: size", x.size(1, 0, 0), length);
+      for (int i = 0; i < 13; i++) {
+        due.is(length + " bytes: byte " + i, x.read(1, 0, 0, i), i < length ? 1 : MISSING);
+      }
+    }
   }
 
   private static void messagesShareModuleUpToTwentyFour() {
@@ -225,7 +238,7 @@ public final class PublishTest {
     due.is("nothing changed: module(0)", x.module(0), 65536 + 11);
     due.is("nothing changed: module(1)", x.module(1), 65536 + 21);
     x.remove(2);
-    due.is("made anew", file(x, 0, 2, 3), 2);
+    Trees.file(x, 2, 3);
     x.publish();
     due.is("the same again: module(0)", x.module(0), 65536 + 11);
     due.is("the same again: module(1)", x.module(1), 65536 + 21);
@@ -299,7 +312,7 @@ public final class PublishTest {
     x.remove(2);
     x.publish();
     due.is("modules() then", x.modules(), 1);
-    file(x, 0, 2, 12);
+    Trees.file(x, 2, 12);
     x.publish();
     due.is("module(1)", x.module(1), 65536 * 3 + 15);
     due.is("module(2)", x.module(2), 65536 * 3 + 15);

@@ -31,8 +31,10 @@ public final class ReceiverTest {
     wrongCheckIsBad();
     listsAreCounted();
     newListKeepsUnchangedModules();
+    newListGoesThroughTwelveNumbers();
     blocksAreCountedEachTime();
     blocksOfOtherVersionsAreStrange();
+    eachCountCountsItsOwn();
     retuneForgetsAll();
     retuneLeavesSenderAlone();
     countRefuses();
@@ -46,17 +48,8 @@ public final class ReceiverTest {
     return new Twin(due);
   }
 
-  /** Files of the gateway, named from 1 on, with so many bytes. */
   private static Twin files(int... lengths) {
-    Twin x = fresh();
-    for (int f = 0; f < lengths.length; f++) {
-      int key = x.make(0, f + 1, false);
-      for (int i = 0; i < lengths[f]; i++) {
-        x.append(key, i);
-      }
-    }
-    x.publish();
-    return x;
+    return Trees.files(due, lengths);
   }
 
   /**
@@ -574,6 +567,35 @@ public final class ReceiverTest {
     due.is("all the same: held(1)", x.held(1), 3);
   }
 
+  private static void newListGoesThroughTwelveNumbers() {
+    due.sentence("Of every module number 0 .. 11");
+    Twin x = files(12, 12, 12, 12, 12, 12, 12, 12, 12, 12, 12);
+    x.send(64);
+    for (int m = 0; m < 12; m++) {
+      due.is("twelve modules: held(" + m + ")", x.held(m), m == 0 ? 6 : 2);
+    }
+    x.empty(11);
+    x.append(11, 1);
+    x.publish();
+    due.is("modules()", x.modules(), 11);
+    x.send(4);
+    due.is("transaction()", x.transaction(), 2);
+    for (int m = 1; m < 10; m++) {
+      due.is("the same: held(" + m + ")", x.held(m), 2);
+    }
+    due.is("other bytes: held(10)", x.held(10), 0);
+    due.is("gone: held(11)", x.held(11), MISSING);
+    for (int key = 11; key > 0; key--) {
+      x.remove(key);
+    }
+    x.publish();
+    x.send(2);
+    due.is("one module: held(0)", x.held(0), 1);
+    for (int m = 1; m < 12; m++) {
+      due.is("one module: held(" + m + ")", x.held(m), MISSING);
+    }
+  }
+
   private static void blocksAreCountedEachTime() {
     due.sentence("1 blocks that it took (also those held already)");
     Twin x = oneFile();
@@ -597,6 +619,29 @@ public final class ReceiverTest {
     counts("blocks of a version that is not listed", x, 1, 2, 1, 2, 0, 0);
     due.is("what was held stays", x.held(0), 2);
     due.is("as it was", x.size(1, 0, 0), 0);
+  }
+
+  private static void eachCountCountsItsOwn() {
+    due.sentence("k = 0 lists, 1 blocks that it took (also those held already), 2 BAD sections, 3"
+        + " STRANGE ones, 4 sections thrown away, 5 ignored packets.");
+    Twin x = small();
+    x.send(1);
+    counts("a list", x, 1, 0, 0, 0, 0, 0);
+    x.send(1);
+    counts("a block", x, 1, 1, 0, 0, 0, 0);
+    x.spoil(5, 1);
+    counts("a bad section", x, 1, 1, 1, 0, 0, 0);
+    x.publish();
+    x.send(1);
+    counts("a section thrown away, and a list", x, 2, 1, 1, 0, 1, 0);
+    x.spoil(0, 1);
+    counts("an ignored packet", x, 2, 1, 1, 0, 1, 1);
+    x.make(0, 1, true);
+    x.publish();
+    x.spoil(5, 1);
+    counts("another section thrown away, and a bad one", x, 2, 1, 2, 0, 2, 1);
+    x.send(3);
+    counts("two strange ones, for their list was bad", x, 2, 1, 2, 2, 2, 1);
   }
 
   private static void retuneForgetsAll() {

@@ -12,6 +12,7 @@ public final class TreeTest {
     newSenderSentNothing();
     newReceiverHasNothing();
     newObjectsShareNothing();
+    gatewayIsAlwaysThere();
     makeMakesDirectoryOrEmptyFile();
     makeTakesLeastFreeKey();
     makeRefusesNumbersOutOfRange();
@@ -130,6 +131,28 @@ public final class TreeTest {
     due.is("publish()", x.publish(), 1);
     due.is("the other one is as it was", used.make(0, 12, false), FULL);
     due.is("the other one is as it was", used.publish(), 2);
+  }
+
+  private static void gatewayIsAlwaysThere() {
+    due.sentence("Object 0 is the gateway, a directory, always there.");
+    Unchanged[] states = {
+      new Unchanged(due, TreeTest::fresh), new Unchanged(due, TreeTest::some),
+      new Unchanged(due, TreeTest::full),
+    };
+    for (Unchanged state : states) {
+      state.by("remove(0)", x -> x.remove(0), BAD);
+      state.by("append(0, 1)", x -> x.append(0, 1), BAD);
+      state.by("empty(0)", x -> x.empty(0), BAD);
+    }
+    Twin x = full();
+    for (int key = 11; key > 0; key--) {
+      x.remove(key);
+    }
+    due.is("make in it when all else is gone", x.make(0, 1, true), 1);
+    x.publish();
+    x.send(10);
+    due.is("its kind", x.kind(0, 0, 0), 1);
+    due.is("its entries", x.size(0, 0, 0), 1);
   }
 
   private static void makeMakesDirectoryOrEmptyFile() {

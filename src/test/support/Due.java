@@ -1,3 +1,5 @@
+import java.util.Arrays;
+
 /** Holds each answer against the one that is due, and tells the wrong ones. */
 final class Due {
   private int wrong = 0;
@@ -20,6 +22,11 @@ final class Due {
       wrong++;
       System.out.println(words + "does not hold: " + what);
     }
+  }
+
+  void bytes(String what, int[] got, int... want) {
+    isTrue(what + " " + Arrays.toString(got) + ", due is " + Arrays.toString(want),
+        Arrays.equals(got, want));
   }
 
   int wrongSoFar() {
